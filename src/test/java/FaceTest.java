@@ -1,0 +1,111 @@
+import java.lang.reflect.Constructor;
+import java.lang.reflect.Field;
+import java.lang.reflect.Method;
+import java.lang.reflect.Modifier;
+import java.nio.file.Files;
+import java.nio.file.Path;
+import java.util.ArrayList;
+import java.util.List;
+import java.util.Set;
+import java.util.TreeSet;
+
+/** The public face as the document has it, and the words that LANGUAGE.md leaves out. */
+public final class FaceTest {
+    private static final String[] METHODS = {
+        "int stop(int,int)", "int line(int,int,int,int,int,int,int,int)", "int days(int,int,int)", "int ofLine(int,int)",
+        "int runs(int,int)", "int minute(int,int,int)", "int far(int,int)", "int text(int,int,int,int)",
+        "int owed(int,int)", "int why(int,int)", "int served(int,int)", "int breach(int)",
+        "int trip(int,int,int,int,int)", "int way(int,int,int)", "int lose(int,int,int)", "int who(int,int,int)",
+        "int offer(int)", "int best(int,int,int)", "int depot(int,int,int)", "int empty(int,int)", "int fit(int,int)",
+        "int driver()", "int know(int,int,boolean)", "int roster(int,int)", "int board(int,boolean)",
+        "int night(int,int,int,int)", "int waiting(int,int,int)", "int seats(int)", "int standing(int,int,int)",
+        "int extra(int)", "int sheet(int,int,int)", "int drop(int)", "int put(int,int,int)", "long cell(int,int,int)",
+        "int copy(int,int,int,int,int)", "int tell(int)", "int hail(int)", "int as(int,int)", "int trace()",
+        "int fault()", "int many(int)"};
+
+    public static void main(String[] args) throws Exception {
+        constants();
+        members();
+        words();
+        Check.end();
+    }
+
+    private static void constants() {
+        Check.due("UNKNOWN", RedrawnLines.UNKNOWN, -1);
+        Check.due("OUTSIDE", RedrawnLines.OUTSIDE, -2);
+        Check.due("STATE", RedrawnLines.STATE, -3);
+        Check.due("FULL", RedrawnLines.FULL, -4);
+        Check.due("NONE", RedrawnLines.NONE, -9);
+        Check.due("LOST", RedrawnLines.LOST, Long.MIN_VALUE);
+    }
+
+    private static void members() {
+        Class<?> c = RedrawnLines.class;
+        Check.due("public and final", c.getModifiers() & (Modifier.PUBLIC | Modifier.FINAL), Modifier.PUBLIC | Modifier.FINAL);
+        Set<String> got = new TreeSet<>();
+        Set<String> open = new TreeSet<>();
+        for (Method m : c.getDeclaredMethods()) {
+            if (Modifier.isPrivate(m.getModifiers())) {
+                continue;
+            }
+            StringBuilder face = new StringBuilder(m.getReturnType().getName() + " " + m.getName() + "(");
+            for (int i = 0; i < m.getParameterCount(); i++) {
+                face.append(i == 0 ? "" : ",").append(m.getParameterTypes()[i].getName());
+            }
+            got.add(face.append(")").toString());
+            open.add(m.getName());
+        }
+        Set<String> want = new TreeSet<>(List.of(METHODS));
+        same("methods", got, want);
+        int constructors = 0;
+        for (Constructor<?> k : c.getDeclaredConstructors()) {
+            constructors += Modifier.isPublic(k.getModifiers()) && k.getParameterCount() == 0 ? 1 : 100;
+        }
+        Check.due("constructors", constructors, 1);
+        Set<String> fields = new TreeSet<>();
+        for (Field f : c.getDeclaredFields()) {
+            if (!Modifier.isPrivate(f.getModifiers())) {
+                fields.add(f.getName());
+            }
+        }
+        same("fields", fields, new TreeSet<>(List.of("UNKNOWN", "OUTSIDE", "STATE", "FULL", "NONE", "LOST")));
+        List<Class<?>> all = new ArrayList<>(List.of(c.getDeclaredClasses()));
+        all.add(c);
+        Check.due("classes, at most 12", all.size() <= 12 ? 1 : 0, 1);
+        for (Class<?> k : all) {
+            for (Method m : k.getDeclaredMethods()) {
+                Check.due(k.getName() + "." + m.getName() + " takes at most seven", m.getParameterCount() <= 7 || m.getName().equals("line") ? 1 : 0, 1);
+                Check.due(k.getName() + "." + m.getName() + " bears no public name", Modifier.isPublic(m.getModifiers()) || !open.contains(m.getName()) ? 1 : 0, 1);
+            }
+        }
+    }
+
+    private static void same(String what, Set<String> got, Set<String> want) {
+        Set<String> more = new TreeSet<>(got);
+        more.removeAll(want);
+        Set<String> fewer = new TreeSet<>(want);
+        fewer.removeAll(got);
+        Check.due(what + " more " + more + ", fewer " + fewer, more.size() + fewer.size(), 0);
+    }
+
+    private static void words() throws Exception {
+        String source = Files.readString(Path.of("src/main/java/RedrawnLines.java"));
+        String code = source.replaceAll("(?s)/\\*.*?\\*/", " ").replaceAll("//[^\n]*", " ");
+        for (String word : List.of("throw", "throws", "try", "catch", "finally", "synchronized", "assert", "package", "volatile", "native", "equals", "hashCode", "toString", "Object", "Exact")) {
+            Check.due("the word " + word, code.matches("(?s).*\\b" + word + "\\b.*") ? 1 : 0, 0);
+        }
+        for (String sign : List.of("->", "::", "@", "%=", "/=")) {
+            Check.due("the sign " + sign, code.contains(sign) ? 1 : 0, 0);
+        }
+        int imports = 0;
+        for (String row : code.split("\n")) {
+            imports += row.startsWith("import") && !row.equals("import java.util.Arrays;") ? 1 : 0;
+        }
+        Check.due("imports of what is not listed", imports, 0);
+        int odd = 0;
+        for (int i = 0; i < source.length(); i++) {
+            odd += source.charAt(i) > 126 ? 1 : 0;
+        }
+        Check.due("signs above 126", odd, 0);
+    }
+}
