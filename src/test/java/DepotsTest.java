@@ -195,7 +195,8 @@ public final class DepotsTest {
         x.days(0, 0, 3);
         night(x, 3, 2, 1854, 1859, 2);
         night(x, 4, 2, 100, 105, 2);
-        x.days(0, 4, 9);
+        x.days(0, 4, 4);
+        night(x, 2, 2, 1854, 1859, 2);
         night(x, 3, 2, 0, 5, 2);
         night(x, 3, 2, 1854, -9, -9);
         // A bus of the next night is there behind the next day's first one.
@@ -236,7 +237,8 @@ public final class DepotsTest {
         Check.line(x, 0, 400, 100, 600, 0, 10, 1, 0);
         Check.due("at first", x.waiting(0, 0, 30), 0);
         Check.due("then", x.waiting(0, 0, 999), 30);
-        Check.due("none", x.waiting(0, 0, 30), 999);
+        Check.due("as many as may", x.waiting(0, 0, 0), 999);
+        Check.due("none", x.waiting(0, 0, 30), 0);
         x.waiting(0, 1, 50);
         x.waiting(0, 2, 90);
         Check.due("k -1 ahead of many", x.waiting(0, -1, -1), -1);

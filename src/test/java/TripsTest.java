@@ -7,6 +7,7 @@ public final class TripsTest {
         ties();
         nights();
         beforeAndAfter();
+        oneMinute();
         offers();
         bestNets();
         Check.end();
@@ -158,6 +159,17 @@ public final class TripsTest {
         }
     }
 
+    private static void oneMinute() {
+        RedrawnLines x = Check.town();
+        Check.line(x, 0, 400, 15, 600, 0, 10, 1, 0);
+        Check.line(x, 0, 401, 15, 600, 0, 10, 1, 0);
+        x.days(0, 0, 0);
+        x.days(1, 1, 1);
+        x.trip(0, 1, 400, 0, 1);
+        Check.due("a minute worse", x.who(0, 1, 0), 1);
+        Check.due("a minute better", x.who(1, 0, 1), 1);
+    }
+
     private static void offers() {
         RedrawnLines x = Check.town();
         Check.due("no line", x.offer(0), -1);
@@ -175,6 +187,12 @@ public final class TripsTest {
         Check.due("many(4)", x.many(4), 4);
         x.trip(0, 1, 0, 0, 1);
         Check.due("offered ones run as others", x.way(0, 0, 0), 5);
+        best(x, 0, 99999, 0, 1, 5, 0);
+        best(x, 0, 4, 0, 1, 5, 0);
+        x.days(2, 9, 9);
+        x.days(4, 9, 9);
+        best(x, 0, 4, 0, 0, 0, 0);
+        best(x, 0, 5, 1, 1, 5, 5);
     }
 
     private static void best(RedrawnLines x, int day, int minutes, int set, int going, int sum, int used) {
