@@ -832,15 +832,21 @@ public final class RedrawnLines {
     private static final class Network {
         private final int[] x = new int[MOST_STOPS];
         private final int[] y = new int[MOST_STOPS];
+        private final int[] walks = new int[MOST_STOPS * MOST_STOPS];
         int stopCount = 0;
         final Line[] lines = new Line[MOST_LINES];
         int lineCount = 0;
 
         int addStop(int atX, int atY) {
-            x[stopCount] = atX;
-            y[stopCount] = atY;
+            int added = stopCount;
+            x[added] = atX;
+            y[added] = atY;
             stopCount++;
-            return stopCount - 1;
+            for (int s = 0; s < stopCount; s++) {
+                walks[s * MOST_STOPS + added] = walkFrom(s, atX, atY);
+                walks[added * MOST_STOPS + s] = walkFrom(s, atX, atY);
+            }
+            return added;
         }
 
         boolean hasStop(int s) {
@@ -859,7 +865,7 @@ public final class RedrawnLines {
         }
 
         int walk(int a, int b) {
-            return walkFrom(a, x[b], y[b]);
+            return walks[a * MOST_STOPS + b];
         }
 
         int walkFrom(int s, int toX, int toY) {

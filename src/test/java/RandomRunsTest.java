@@ -44,11 +44,11 @@ public final class RandomRunsTest {
 
     private void go() throws Exception {
         int most = 100 + below(412);
-        int firstStops = 2 + below(9);
+        int firstStops = run % 5 == 0 ? 16 : 2 + below(9);
         for (int k = 0; k < firstStops; k++) {
             call("stop", below(spread), below(spread));
         }
-        int firstLines = below(9);
+        int firstLines = run % 10 == 0 ? 14 : below(9);
         for (int k = 0; k < firstLines; k++) {
             makeLine();
         }
