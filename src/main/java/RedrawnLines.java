@@ -1230,7 +1230,9 @@ public final class RedrawnLines {
             if (tooMany) {
                 return NONE;
             }
-            Arrays.fill(rest, 0, states, OPEN);
+            for (int state = 0; state < states; state++) {
+                rest[state] = OPEN;
+            }
             int all = leastFrom(0, 0);
             if (all == NEVER) {
                 return NONE;
