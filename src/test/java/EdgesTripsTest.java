@@ -86,11 +86,21 @@ public final class EdgesTripsTest {
         x.trip(0, 1, 5, 0, 0);
         x.trip(0, 2, 5, 0, 0);
         x.trip(0, 2, 5, 1, 0);
+        x.trip(0, 2, 0, 1, 0);
         way(x, 0, 0, 0, 0, 0);
         way(x, 1, 59, 1439, 0, 0);
         way(x, 2, 0, 5, 0, 0);
         way(x, 3, 0);
         way(x, 4, 0, 6, 0, 1);
+        way(x, 5, 0, 1, 0, 1);
+        // At minute 0 a bus is taken, and one that is walked to.
+        x = Check.stops(0, 0, 1, 0, 40, 40);
+        Check.line(x, 0, 0, 1, 1, 0, 20, 2, 0);
+        Check.line(x, 0, 1, 1, 1, 1, 10, 2, 0);
+        x.trip(0, 2, 0, 0, 1);
+        x.trip(0, 2, 0, 1, 1);
+        way(x, 0, 0, 20, 1, 0);
+        way(x, 1, 0, 11, 1, 1);
     }
 
     private static void walks() {

@@ -27,6 +27,9 @@ public final class FaceTest {
         constants();
         members();
         words();
+        fields();
+        calls();
+        lengths();
         Check.end();
     }
 
@@ -90,7 +93,7 @@ public final class FaceTest {
 
     private static void words() throws Exception {
         String source = Files.readString(Path.of("src/main/java/RedrawnLines.java"));
-        String code = source.replaceAll("(?s)/\\*.*?\\*/", " ").replaceAll("//[^\n]*", " ");
+        String code = code();
         for (String word : List.of("throw", "throws", "try", "catch", "finally", "synchronized", "assert", "package", "volatile", "native", "equals", "hashCode", "toString", "Object", "Exact")) {
             Check.due("the word " + word, code.matches("(?s).*\\b" + word + "\\b.*") ? 1 : 0, 0);
         }
@@ -107,5 +110,57 @@ public final class FaceTest {
             odd += source.charAt(i) > 126 ? 1 : 0;
         }
         Check.due("signs above 126", odd, 0);
+    }
+
+    /** Rules 2, 3, 5, 11: classes inside are static, static fields are constants, a class has some twenty fields. */
+    private static void fields() {
+        List<Class<?>> all = new ArrayList<>(List.of(RedrawnLines.class.getDeclaredClasses()));
+        for (Class<?> k : all) {
+            Check.due(k.getName() + " is static", Modifier.isStatic(k.getModifiers()) && !Modifier.isPublic(k.getModifiers()) ? 1 : 0, 1);
+        }
+        all.add(RedrawnLines.class);
+        List<Class<?>> constants = List.of(int.class, long.class, boolean.class, char.class, String.class, int[].class, long[].class, char[].class, byte[].class);
+        for (Class<?> k : all) {
+            int own = 0;
+            for (Field f : k.getDeclaredFields()) {
+                if (Modifier.isStatic(f.getModifiers())) {
+                    Check.due(k.getName() + "." + f.getName() + " is a constant", Modifier.isFinal(f.getModifiers()) && constants.contains(f.getType()) ? 1 : 0, 1);
+                } else {
+                    own++;
+                    Class<?> type = f.getType().isArray() ? f.getType().getComponentType() : f.getType();
+                    Check.due(k.getName() + "." + f.getName() + " is of a listed type", type.isPrimitive() || all.contains(type) ? 1 : 0, 1);
+                }
+            }
+            Check.due(k.getName() + " has some twenty fields at most: " + own, own <= 20 ? 1 : 0, 1);
+        }
+    }
+
+    private static String code() throws Exception {
+        String source = Files.readString(Path.of("src/main/java/RedrawnLines.java"));
+        return source.replaceAll("(?s)/\\*.*?\\*/", " ").replaceAll("//[^\n]*", " ");
+    }
+
+    /** Rule 4: of the library only what is listed. */
+    private static void calls() throws Exception {
+        Set<String> listed = Set.of("Math.max", "Math.min", "Math.abs", "Integer.bitCount", "System.arraycopy", "Arrays.fill", "Arrays.copyOfRange", "Arrays.copyOf", "Long.MIN_VALUE", "Integer.MAX_VALUE");
+        java.util.regex.Matcher m = java.util.regex.Pattern.compile("(?<!import java\\.util\\.)\\b(Math|Integer|Long|System|Arrays|String|StringBuilder|ArrayList|List|Character|Boolean|Thread|Runtime)\\b(\\.\\w+)?").matcher(code());
+        while (m.find()) {
+            Check.due(m.group() + " is listed", listed.contains(m.group()) ? 1 : 0, 1);
+        }
+    }
+
+    /** Rule 11: methods stay short. */
+    private static void lengths() throws Exception {
+        String[] rows = Files.readString(Path.of("src/main/java/RedrawnLines.java")).split("\n");
+        int begin = 0;
+        String indent = "";
+        for (int i = 0; i < rows.length; i++) {
+            if (rows[i].matches(" +(?!.*\\bclass\\b)[\\w\\[\\] ]+\\(.*\\) \\{") && !rows[i].matches(" +(if|for|while|switch|\\}).*")) {
+                begin = i;
+                indent = rows[i].replaceAll("\\S.*", "");
+            } else if (rows[i].equals(indent + "}")) {
+                Check.due("rows of the method in row " + (begin + 1), i - begin + 1 <= 60 ? 1 : 0, 1);
+            }
+        }
     }
 }
