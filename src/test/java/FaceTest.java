@@ -1,3 +1,4 @@
+import java.io.IOException;
 import java.lang.reflect.Constructor;
 import java.lang.reflect.Field;
 import java.lang.reflect.Method;
@@ -8,23 +9,19 @@ import java.util.ArrayList;
 import java.util.List;
 import java.util.Set;
 import java.util.TreeSet;
+import java.util.regex.Matcher;
+import java.util.regex.Pattern;
 
 /** The public face as the document has it, and the words that LANGUAGE.md leaves out. */
 public final class FaceTest {
-    private static final String[] METHODS = {
-        "int stop(int,int)", "int line(int,int,int,int,int,int,int,int)", "int days(int,int,int)", "int ofLine(int,int)",
-        "int runs(int,int)", "int minute(int,int,int)", "int far(int,int)", "int text(int,int,int,int)",
-        "int owed(int,int)", "int why(int,int)", "int served(int,int)", "int breach(int)",
-        "int trip(int,int,int,int,int)", "int way(int,int,int)", "int lose(int,int,int)", "int who(int,int,int)",
-        "int offer(int)", "int best(int,int,int)", "int depot(int,int,int)", "int empty(int,int)", "int fit(int,int)",
-        "int driver()", "int know(int,int,boolean)", "int roster(int,int)", "int board(int,boolean)",
-        "int night(int,int,int,int)", "int waiting(int,int,int)", "int seats(int)", "int standing(int,int,int)",
-        "int extra(int)", "int sheet(int,int,int)", "int drop(int)", "int put(int,int,int)", "long cell(int,int,int)",
-        "int copy(int,int,int,int,int)", "int tell(int)", "int hail(int)", "int as(int,int)", "int trace()",
-        "int fault()", "int many(int)"};
+    private static final Path DOCUMENT = Path.of("../shared/DOC.md");
+    private static final Path SOURCE = Path.of("src/main/java/RedrawnLines.java");
+    private static final Pattern METHOD = Pattern.compile("    public (int|long) (\\w+)\\((.*)\\)( \\{|;)");
 
     public static void main(String[] args) throws Exception {
         constants();
+        document();
+        headings();
         members();
         words();
         fields();
@@ -42,7 +39,57 @@ public final class FaceTest {
         Check.due("LOST", RedrawnLines.LOST, Long.MIN_VALUE);
     }
 
-    private static void members() {
+    /** The document's rows of the face, which the source has as they are, the names of the parameters, too. */
+    private static List<String> face() throws IOException {
+        String text = Files.readString(DOCUMENT);
+        int begin = text.indexOf("public final class RedrawnLines {\n");
+        return List.of(text.substring(begin, text.indexOf("\n}\n", begin)).split("\n"));
+    }
+
+    private static void document() throws IOException {
+        List<String> source = List.of(Files.readString(SOURCE).split("\n"));
+        for (String row : face()) {
+            String inSource = row.endsWith(");") ? row.replace(");", ") {") : row;
+            Check.due("the source has " + row, source.contains(inSource) ? 1 : 0, 1);
+        }
+        Check.due("rows of the face", face().size(), 45);
+    }
+
+    /** Each part's heading stands ahead of its calls, in the document's order. */
+    private static void headings() throws IOException {
+        List<String> want = new ArrayList<>();
+        for (String row : Files.readString(DOCUMENT).split("\n")) {
+            Matcher part = Pattern.compile("Ahead of the calls (.*) the interface says: (.*)\\.").matcher(row);
+            if (part.matches()) {
+                want.add(part.group(2));
+                want.addAll(List.of(part.group(1).replace("`", "").split(", ")));
+            }
+        }
+        List<String> got = new ArrayList<>();
+        for (String row : Files.readString(SOURCE).split("\n")) {
+            Matcher method = METHOD.matcher(row);
+            if (row.matches("    // ---- \\d .*")) {
+                got.add(row.replace("    // ", ""));
+            } else if (method.matches()) {
+                got.add(method.group(2));
+            }
+        }
+        Check.due("headings and calls " + got + ", due are " + want, got.equals(want) && want.size() == 46 ? 1 : 0, 1);
+    }
+
+    /** The document's methods with their types alone. */
+    private static Set<String> methods() throws IOException {
+        Set<String> all = new TreeSet<>();
+        for (String row : face()) {
+            Matcher method = METHOD.matcher(row);
+            if (method.matches()) {
+                all.add(method.group(1) + " " + method.group(2) + "(" + method.group(3).replaceAll("(\\w+) \\w+", "$1").replace(" ", "") + ")");
+            }
+        }
+        return all;
+    }
+
+    private static void members() throws IOException {
         Class<?> c = RedrawnLines.class;
         Check.due("public and final", c.getModifiers() & (Modifier.PUBLIC | Modifier.FINAL), Modifier.PUBLIC | Modifier.FINAL);
         Set<String> got = new TreeSet<>();
@@ -58,8 +105,7 @@ public final class FaceTest {
             got.add(face.append(")").toString());
             open.add(m.getName());
         }
-        Set<String> want = new TreeSet<>(List.of(METHODS));
-        same("methods", got, want);
+        same("methods", got, methods());
         int constructors = 0;
         for (Constructor<?> k : c.getDeclaredConstructors()) {
             constructors += Modifier.isPublic(k.getModifiers()) && k.getParameterCount() == 0 ? 1 : 100;
@@ -92,7 +138,7 @@ public final class FaceTest {
     }
 
     private static void words() throws Exception {
-        String source = Files.readString(Path.of("src/main/java/RedrawnLines.java"));
+        String source = Files.readString(SOURCE);
         String code = code();
         for (String word : List.of("throw", "throws", "try", "catch", "finally", "synchronized", "assert", "package", "volatile", "native", "equals", "hashCode", "toString", "Object", "Exact")) {
             Check.due("the word " + word, code.matches("(?s).*\\b" + word + "\\b.*") ? 1 : 0, 0);
@@ -136,14 +182,14 @@ public final class FaceTest {
     }
 
     private static String code() throws Exception {
-        String source = Files.readString(Path.of("src/main/java/RedrawnLines.java"));
+        String source = Files.readString(SOURCE);
         return source.replaceAll("(?s)/\\*.*?\\*/", " ").replaceAll("//[^\n]*", " ");
     }
 
     /** Rule 4: of the library only what is listed. */
     private static void calls() throws Exception {
         Set<String> listed = Set.of("Math.max", "Math.min", "Math.abs", "Integer.bitCount", "System.arraycopy", "Arrays.fill", "Arrays.copyOfRange", "Arrays.copyOf", "Long.MIN_VALUE", "Integer.MAX_VALUE");
-        java.util.regex.Matcher m = java.util.regex.Pattern.compile("(?<!import java\\.util\\.)\\b(Math|Integer|Long|System|Arrays|String|StringBuilder|ArrayList|List|Character|Boolean|Thread|Runtime)\\b(\\.\\w+)?").matcher(code());
+        Matcher m = Pattern.compile("(?<!import java\\.util\\.)\\b(Math|Integer|Long|System|Arrays|String|StringBuilder|ArrayList|List|Character|Boolean|Thread|Runtime)\\b(\\.\\w+)?").matcher(code());
         while (m.find()) {
             Check.due(m.group() + " is listed", listed.contains(m.group()) ? 1 : 0, 1);
         }
@@ -151,7 +197,7 @@ public final class FaceTest {
 
     /** Rule 11: methods stay short. */
     private static void lengths() throws Exception {
-        String[] rows = Files.readString(Path.of("src/main/java/RedrawnLines.java")).split("\n");
+        String[] rows = Files.readString(SOURCE).split("\n");
         int begin = 0;
         String indent = "";
         for (int i = 0; i < rows.length; i++) {
